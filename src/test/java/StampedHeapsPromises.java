@@ -643,6 +643,7 @@ public final class StampedHeapsPromises {
         clockIs("8", x, 4);
         raisingLowers();
         youngEntriesAreNotRaised();
+        entriesOfTheSameStampAreNotRaised();
         noEntryNothing();
     }
 
@@ -668,6 +669,24 @@ public final class StampedHeapsPromises {
         due("8: older message", x.deliver(0), true);
         due("8: entry stays", x.entry(1), 3);
         due("8: LOW stays", x.redo(1), 4);
+    }
+
+    /** The stamp 4 comes to object 2 by way of node 1 first, and from node 0 after that. */
+    private static void entriesOfTheSameStampAreNotRaised() {
+        StampedHeaps x = new StampedHeaps();
+        x.make(0, 0, 1);
+        x.make(0, 1, 2);
+        x.store(0, 0, 0, 1);
+        x.collect(0);
+        x.deliver(0);
+        x.collect(1);
+        x.deliver(1);
+        due("8: raised by way of node 1", x.entry(2), 4);
+        x.collect(2);
+        due("8: the same stamp", x.message(0, 2), 4);
+        x.deliver(0);
+        due("8: entry of that stamp", x.entry(2), 4);
+        due("8: LOW stays NEVER", x.redo(2), 6);
     }
 
     private static void noEntryNothing() {
