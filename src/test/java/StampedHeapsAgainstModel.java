@@ -10,7 +10,8 @@ import java.util.TreeSet;
  * Long runs of calls, chosen with fixed seeds, on the class and on a model that follows the document's terms word by
  * word (all stamps of an object kept as a set, not their greatest alone). After every call the whole state that the
  * face shows is compared. In every second run all entries are taken away now and then, by a THRESHOLD that is set past
- * the face for one round: no run of calls alone is known that leaves dead references in roots. Answers that differ are printed; exit code 1 if there are any.
+ * the face for one round: no run of calls alone is known that leaves dead references in roots. Answers that differ are
+ * printed; exit code 1 if there are any.
  */
 public final class StampedHeapsAgainstModel {
     private static final int RUNS = 300;
