@@ -519,6 +519,15 @@ public final class StampedHeapsBoundaries {
         run.due("field(12, 0)", 0).due("field(12, 1)", 0).none("owner(1)").none("owner(4)").none("owner(7)");
     }
 
+    private static void makeWhereAnObjectWasFreed() {
+        Run run = new Run("2: its fields are empty, also where an object was freed");
+        run.due("make(0, 0, 0)", 1).done("store(0, 0, 0, 0)", "store(0, 0, 1, 0)", "drop(0, 0)").due("collect(0)", 1);
+        for (int number = 2; number <= 9; number++) {
+            run.due("make(0, 0, 0)", number).due(call("field", number, 0), 0).due(call("field", number, 1), 0);
+            run.none(call("entry", number));
+        }
+    }
+
     private static void makeAllNodesFull() {
         Run run = new Run("2: every node has 8 objects");
         for (int number = 1; number <= 24; number++) {
@@ -893,7 +902,8 @@ public final class StampedHeapsBoundaries {
     /**
      * Eight objects of node 0, the numbers 1, 4, .. 22, with a field for an object of node 1 and one for an object of
      * node 2 each. They are freed on nodes 1 and 2 and not yet on node 0: its fields and 16 of its exits are for freed
-     * objects. Then sixteen new objects make it 32 exits, the most there can be. Clock 57, then 73.
+     * objects. Then sixteen new objects make it 32 exits; more were never seen. The last of them, object 40 of node 2,
+     * is held by a root of node 1 too. Clock 74.
      */
     private static Run withManyExits(String name) {
         Run run = new Run(name);
@@ -1296,6 +1306,7 @@ public final class StampedHeapsBoundaries {
         makeNoSuchOwner();
         makeOwnerHasEight();
         makeRoomAfterCollecting();
+        makeWhereAnObjectWasFreed();
         makeAllNodesFull();
         makeOwnDoesNotArrive();
         makeElsewhereArrives();
